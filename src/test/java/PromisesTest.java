@@ -17,6 +17,7 @@ public final class PromisesTest {
         breakDown();
         repaired();
         planByRules();
+        planFullShop();
         planRoundBreakdowns();
         shift();
         shiftComesFromTheOldPlan();
@@ -286,6 +287,37 @@ public final class PromisesTest {
         for (int rule : new int[] {LEAST, -1, 4, MOST}) {
             dueThrow("rule " + rule, ARGUMENT, x, y -> y.plan(rule));
         }
+    }
+
+    /** Six jobs of five operations, all on one machine: one after the other, by weight. */
+    private static void planFullShop() {
+        promise = "promise 7";
+        RepairShop x = new RepairShop();
+        for (int job = 0; job < 6; job++) {
+            x.addJob(job + 1, 999);
+            for (int operation = 0; operation < 5; operation++) {
+                x.addOperation(job, 1, 20);
+            }
+        }
+        due("nothing is late", 0, x.plan(2));
+        due("starts", "500 520 540 560 580 | 400 420 440 460 480 | 300 320 340 360 380 | "
+                + "200 220 240 260 280 | 100 120 140 160 180 | 0 20 40 60 80", starts(x, 3));
+        due("the last one", 4, x.onMachine(1, 29));
+        due("not so many", NONE, x.onMachine(1, 30));
+        x.breakDown(1, 99, 1);
+        due("shift", 0, x.shift());
+        due("starts", "520 540 560 580 600 | 420 440 460 480 500 | 320 340 360 380 400 | "
+                + "220 240 260 280 300 | 120 140 160 180 200 | 0 20 40 60 100", starts(x, 3));
+        due("meeting", 581, x.meeting());
+        due("different", 26, x.accept());
+        due("all work", 600.0 / (3 * 620), x.usage());
+        due("replan, from 600 on", 0, x.replan(600, 0));
+        due("the last one stays or starts at 600", 600, x.operation(0, 4, 3));
+        due("replan, from 999 on", 0, x.replan(999, 0));
+        due("all stay", 600, x.operation(0, 4, 3));
+        due("replan, from 0 on by rule 0", 0, x.replan(0, 0));
+        due("greatest end", 620, x.value(8));
+        due("the lowest first", 0, x.operation(0, 0, 3));
     }
 
     private static void planRoundBreakdowns() {
@@ -945,6 +977,7 @@ public final class PromisesTest {
         due("the other one", 0, x.undo());
         due("jobs", 2, x.value(1));
         undoBringsAllBack();
+        undoBringsRowsBack();
         undoAfterNothing();
     }
 
@@ -966,6 +999,57 @@ public final class PromisesTest {
             due("as before call " + call, before, x.digest());
         }
         due("the text is not undone", 1, x.clearText());
+    }
+
+    /** What is written over after a call comes back with it. */
+    private static void undoBringsRowsBack() {
+        RepairShop x = shop(3, "j3,10;o02,4;d2,10,20;");
+        String before = allOf(x);
+        x.begin(5);
+        x.addJob(5, 50);
+        x.addOperation(0, 1, 7);
+        x.breakDown(1, 11, 21);
+        due("after begin", 3, x.undo());
+        x.undo();
+        x.undo();
+        due("nothing left", 0, x.undo());
+        due("job, operation and breakdown", before, allOf(x));
+        x.repaired();
+        x.breakDown(0, 30, 40);
+        x.undo();
+        x.undo();
+        due("the breakdown taken away", before, allOf(x));
+        x.addOperation(0, 2, 9);
+        x.plan(0);
+        x.breakDown(2, 0, 9);
+        x.shift();
+        due("shifted", "30 34", starts(x, 3));
+        x.undo();
+        due("present plan", "0 30", starts(x, 3));
+        x.undo();
+        x.replan(0, 0);
+        x.undo();
+        due("plans", "0 30 0 30", starts(x, 2) + " " + starts(x, 3));
+    }
+
+    private static String allOf(RepairShop x) {
+        StringBuilder all = new StringBuilder(values(x));
+        for (int job = 0; job < x.value(1); job++) {
+            for (int what = 0; what <= 5; what++) {
+                all.append(' ').append(x.job(job, what));
+            }
+            for (int operation = 0; operation < x.job(job, 2); operation++) {
+                for (int what = 0; what <= 4; what++) {
+                    all.append(' ').append(x.operation(job, operation, what));
+                }
+            }
+        }
+        for (int breakdown = 0; breakdown < x.value(3); breakdown++) {
+            for (int what = 0; what <= 2; what++) {
+                all.append(' ').append(x.breakdown(breakdown, what));
+            }
+        }
+        return all.toString();
     }
 
     private static void undoAfterNothing() {

@@ -1,12 +1,5 @@
 /** Each promise with answers worked out by hand: ordinary inputs, the edges, and wrong inputs. */
-public final class PromisesTest {
-    private static final Class<IllegalArgumentException> ARGUMENT = IllegalArgumentException.class;
-    private static final Class<IllegalStateException> STATE = IllegalStateException.class;
-    private static final Class<IndexOutOfBoundsException> INDEX = IndexOutOfBoundsException.class;
-    private static final int NONE = RepairShop.NONE;
-    private static final int LEAST = Integer.MIN_VALUE;
-    private static final int MOST = Integer.MAX_VALUE;
-
+public final class PromisesTest extends Bench {
     private static String promise;
 
     public static void main(String[] args) {
@@ -55,47 +48,6 @@ public final class PromisesTest {
 
     private static void dueThrow(String what, Class<? extends RuntimeException> want, RepairShop x, Checks.Call call) {
         Checks.dueThrow(promise + ", " + what, want, x, call);
-    }
-
-    /** A workshop by orders; an upper-case letter stands for nothing here, so a wrong text shows at once. */
-    private static RepairShop shop(int machines, String orders) {
-        RepairShop x = new RepairShop();
-        x.begin(machines);
-        int count = 0;
-        for (char c : orders.toCharArray()) {
-            count += c == ';' ? 1 : 0;
-        }
-        Checks.due("orders of " + orders, count, carryOut(x, orders));
-        x.clearText();
-        return x;
-    }
-
-    private static int carryOut(RepairShop x, String text) {
-        x.clearText();
-        for (char c : text.toCharArray()) {
-            x.append(c);
-        }
-        return x.carryOut();
-    }
-
-    /** The starts of a plan, job by job: what is 2 for the old one, 3 for the present one. */
-    private static String starts(RepairShop x, int what) {
-        StringBuilder starts = new StringBuilder();
-        for (int job = 0; job < x.value(1); job++) {
-            starts.append(job == 0 ? "" : " | ");
-            for (int operation = 0; operation < x.job(job, 2); operation++) {
-                starts.append(operation == 0 ? "" : " ").append(x.operation(job, operation, what));
-            }
-        }
-        return starts.toString();
-    }
-
-    private static String values(RepairShop x) {
-        StringBuilder values = new StringBuilder();
-        for (int what = 0; what <= 9; what++) {
-            values.append(what == 0 ? "" : " ").append(x.value(what));
-        }
-        return values.toString();
     }
 
     /** Two jobs on three machines; by rule 0: 0 4 | 4 9, ends 7 and 11, lateness 3*0 + 2*1. */
@@ -1030,26 +982,6 @@ public final class PromisesTest {
         x.replan(0, 0);
         x.undo();
         due("plans", "0 30 0 30", starts(x, 2) + " " + starts(x, 3));
-    }
-
-    private static String allOf(RepairShop x) {
-        StringBuilder all = new StringBuilder(values(x));
-        for (int job = 0; job < x.value(1); job++) {
-            for (int what = 0; what <= 5; what++) {
-                all.append(' ').append(x.job(job, what));
-            }
-            for (int operation = 0; operation < x.job(job, 2); operation++) {
-                for (int what = 0; what <= 4; what++) {
-                    all.append(' ').append(x.operation(job, operation, what));
-                }
-            }
-        }
-        for (int breakdown = 0; breakdown < x.value(3); breakdown++) {
-            for (int what = 0; what <= 2; what++) {
-                all.append(' ').append(x.breakdown(breakdown, what));
-            }
-        }
-        return all.toString();
     }
 
     private static void undoAfterNothing() {
